@@ -443,8 +443,8 @@ public final class SpecimenHall {
             long set = 0L;
             int kind = code;
             for (int step = 0; step < KINDS && isKind(kind); step++) {
-                set |= 1L << kind | namedBy(kind);
-                kind = parentOf(kind);
+                set |= 1L << kind | NAMED[kind];
+                kind = PARENT[kind];
             }
             return set;
         }
@@ -459,10 +459,10 @@ public final class SpecimenHall {
             }
             int kind = from;
             for (int step = 0; step < KINDS && isKind(kind); step++) {
-                if (kind == above || has(namedBy(kind), above)) {
+                if (kind == above || has(NAMED[kind], above)) {
                     return step;
                 }
-                kind = parentOf(kind);
+                kind = PARENT[kind];
             }
             return NONE;
         }
@@ -477,7 +477,7 @@ public final class SpecimenHall {
                 if (has(aboveOther, kind)) {
                     return kind;
                 }
-                kind = parentOf(kind);
+                kind = PARENT[kind];
             }
             return NONE;
         }
@@ -498,7 +498,7 @@ public final class SpecimenHall {
             long left = traits;
             for (int code = FIRST_TRAIT; code < END; code++) {
                 if (has(traits, code)) {
-                    left &= ~allAbove(code) | 1L << code;
+                    left &= ~EXTENDED[code - FIRST_TRAIT] | 1L << code;
                 }
             }
             return left;

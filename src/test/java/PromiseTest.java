@@ -26,6 +26,7 @@ public final class PromiseTest {
         promise15OfKindsAndSteps();
         promise16();
         promise16OfCases();
+        promise16OfAllBorrowers();
         promise17();
         promise18();
         promise19();
@@ -584,6 +585,31 @@ public final class PromiseTest {
         check.is("each by its own rule", x.lend(1001, 4, 8), 2);
         check.is("term of the beetle", x.told(13, 8), 3);
         check.is("term of the rose", x.told(14, 8), 9);
+    }
+
+    private static void promise16OfAllBorrowers() {
+        check.part("promise 16, all borrowers");
+        SpecimenHall x = new SpecimenHall();
+        x.rule(0, 2, 1);
+        x.rule(0, 3, 1);
+        for (int i = 0; i < 241; i++) {
+            x.make(11, i, 1);
+        }
+        for (int i = 239; i >= 0; i--) {
+            check.is("lent", x.lend(i, i % 20, 240 - i), 1);
+        }
+        check.is("all have 12", x.lend(240, 19, 0), NONE);
+        check.is("open", x.count(3), 240);
+        check.is("late", x.overdue(1000), 240);
+        check.is("the latest lent", x.lateOne(1000, 239), 0);
+        check.is("no more", x.lateOne(1000, 240), NONE);
+        check.is("each has 12 fees to pay", x.fees(19, 1000), 1200);
+        check.is("the first lent", x.giveBack(239, 1000), 100);
+        check.is("the last in the row", x.giveBack(0, 242), 1);
+        check.is("no more late", x.overdue(1000), 238);
+        check.is("in its stead", x.lend(240, 19, 0), 1);
+        check.is("ahead of all", x.lateOne(1000, 0), 240);
+        check.is("and 239 in all", x.lateOne(1000, 238), 1);
     }
 
     private static void promise17() {
