@@ -10,9 +10,10 @@ public final class ModelTest {
     private static final int RUNS = 1500;
     private static final int CALLS = 512;
     private static final int METHODS = 28;
-    private static final int[] ODD = {-1, -2, 0, 1, 24, 39, 40, 48, 49, 60, 61, 100, 140, 199,
-        200, 201, 239, 240, 300, 1000, 1040, 100000, 100001, 1000000, 1000001,
-        Integer.MAX_VALUE, Integer.MIN_VALUE};
+    private static final int[] ODD = {-1, -2, 0, 1, 5, 9, 10, 11, 12, 13, 19, 20, 21, 23, 24, 39,
+        40, 48, 49, 59, 60, 61, 62, 63, 64, 99, 100, 123, 124, 139, 140, 148, 149, 199, 200, 201,
+        239, 240, 299, 300, 365, 366, 999, 1000, 1001, 1039, 1040, 99999, 100000, 100001,
+        1000000, 1000001, Integer.MAX_VALUE, Integer.MIN_VALUE};
 
     // Which calls a run makes often: a run that makes all alike reaches no limit.
     private static final String[] TASTES = {"", "make", "make caseOf putIn", "rule asks nearest",
@@ -52,10 +53,10 @@ public final class ModelTest {
 
     private static void compareCodes() {
         check.part("codes");
-        SpecimenHall hall = new SpecimenHall();
         PlainHall plain = new PlainHall();
         for (int a = -2; a < 152; a++) {
             for (int b = -2; b < 152; b++) {
+                SpecimenHall hall = new SpecimenHall();
                 String of = "(" + a + ", " + b + ")";
                 check.is("below" + of, hall.below(a, b), plain.below(a, b));
                 check.is("steps" + of, hall.steps(a, b), plain.steps(a, b));
