@@ -26,6 +26,11 @@ public final class LanguageTest {
         "synchronized", "assert", "import", "package", "protected", "volatile", "var",
         "System", "Object", "hashCode", "->", "::", "@", "Exact", "Thread"};
 
+    private static final Set<Class<?>> STATIC = Set.of(int.class, long.class, boolean.class,
+            char.class, String.class, int[].class, long[].class, char[].class, byte[].class);
+
+    private static final int MOST_LINES = 60;
+
     private static final Check check = new Check("LanguageTest");
 
     public static void main(String[] args) throws IOException {
@@ -35,7 +40,9 @@ public final class LanguageTest {
         }
         check.part("rule 11");
         check.yes("twelve classes at most", SpecimenHall.class.getDeclaredClasses().length < 12);
-        lookAtText(withoutComments(Files.readString(SOURCE)));
+        String text = withoutComments(Files.readString(SOURCE));
+        lookAtText(text);
+        lookAtLengths(text);
         check.end();
     }
 
@@ -82,6 +89,7 @@ public final class LanguageTest {
         for (Field field : type.getDeclaredFields()) {
             if (Modifier.isStatic(field.getModifiers())) {
                 check.yes(field + " is final", Modifier.isFinal(field.getModifiers()));
+                check.yes(field + " may be static", STATIC.contains(field.getType()));
             } else {
                 fields++;
             }
@@ -112,5 +120,19 @@ public final class LanguageTest {
             check.yes(library.group(), Set.of("Math.max", "Math.min", "Long.bitCount")
                     .contains(library.group()));
         }
+    }
+
+    /** A method's last line is the first brace that stands as far in as its first line. */
+    private static void lookAtLengths(String text) {
+        check.part("rule 11");
+        Matcher method = Pattern.compile("(?ms)^( {4}| {8})(?=\\S)[^\n;=]*\\([^;{]*\\{\n(.*?)^\\1\\}")
+                .matcher(text);
+        int methods = 0;
+        while (method.find()) {
+            methods++;
+            check.yes(method.group().lines().findFirst().orElse("") + " is short",
+                    method.group().lines().count() <= MOST_LINES);
+        }
+        check.yes(methods + " methods looked at", methods > 28);
     }
 }
